@@ -35,7 +35,7 @@ public final class AgainstModel {
         Run(int number) {
             this.number = number;
             dice = new Random(1000 + number);
-            density = dice.nextInt(4);
+            density = dice.nextInt(5);
             odd = dice.nextInt(3) == 0;
         }
 
@@ -46,8 +46,9 @@ public final class AgainstModel {
 
         /** A book and men to begin with: from hardly a step to nearly all. */
         private void prepare() {
-            int steps = new int[] {8, 20, 45, 100}[density];
+            int steps = new int[] {2, 8, 20, 45, 100}[density];
             for (int i = 0; i < steps; i++) step(dice.nextInt(10), dice.nextInt(10), true);
+            for (int i = dice.nextInt(4); i > 0; i--) thereAndBack(dice.nextInt(10), dice.nextInt(10));
             for (int m = 0; m < 5; m++) {
                 if (dice.nextBoolean()) man(m, 1, bits(10));
                 if (dice.nextBoolean()) man(m, 0, bits(6));
@@ -55,6 +56,11 @@ public final class AgainstModel {
             for (int i = 0; i < 10; i++) {
                 if (dice.nextInt(3) == 0) needs(i, 1 << dice.nextInt(6));
             }
+        }
+
+        private void thereAndBack(int one, int two) {
+            step(one, two, true);
+            step(two, one, true);
         }
 
         private int bits(int n) {

@@ -484,6 +484,9 @@ public final class Promises {
         due("15 only he knows it", x.safe(0), 1);
         x.man(4, 1, 512);
         due("15 one other knows it", x.safe(0), 0);
+        for (int m = 1; m < 5; m++) x.man(m, 1, 0);
+        due("15 who alone knows all", x.safe(0), 1);
+        due("15 he is one for the others", x.safe(1), 0);
         for (int bad : NO_MEN) due("15 unknown", x.safe(bad), UNKNOWN);
     }
 
@@ -525,6 +528,16 @@ public final class Promises {
         x.man(2, 1, 5);
         due("17 who says b?", x.crowd(7, 0), 0);
         due("17 two of them", x.crowd(3, 0), 0);
+        // never one that fell: a, b and no third one
+        x = withBook("a>b>a,c>d>c");
+        due("17 nothing twice", x.crowd(7, 0), 0);
+        due("17 nothing twice", x.crowd(3, 0), 1);
+        due("17 nothing twice", x.crowd(7, 1), 2);
+        due("17 nothing twice", x.crowd(31, 1), 3);
+        put(x, "j>d");
+        x.steps();
+        due("17 j, d, c", x.crowd(7, 0), 1);
+        due("17 no fourth one", x.crowd(15, 0), 0);
         // the first one is said to who speaks next, the others to who spoke ahead
         x = withBook("a>b");
         x.needs(0, 1);
@@ -572,6 +585,17 @@ public final class Promises {
         due("17 three", x.crowd(7, 1), 1);
         due("17 without the middle", x.crowd(6, 0), 0);
         due("17 without the middle", x.crowd(6, 1), 2);
+        // 0, 2 and 1 by a, b, c, then 3 and 4 by d, e; 2 could go with 3 and 4, too, by f
+        x = withBook("a>b>c,d>e>f");
+        x.man(0, 1, 1);
+        x.man(1, 1, 4);
+        x.man(2, 1, 2 + 32);
+        x.man(3, 1, 8);
+        x.man(4, 1, 16);
+        due("17 either", x.crowd(7, 0), 1);
+        due("17 or", x.crowd(28, 0), 1);
+        due("17 not 0 and 1", x.crowd(3, 1), 2);
+        due("17 the better way", x.crowd(31, 1), 2);
     }
 
     private static void promise18Rings() {
@@ -618,6 +642,35 @@ public final class Promises {
         struck(x);
         x.step(1, 0, true);
         struck(x, 10);
+        ladderOfTheBookAsItIs();
+    }
+
+    /** Asked again and again while the book changes. */
+    private static void ladderOfTheBookAsItIs() {
+        for (int i = 0; i < 10; i++) {
+            for (int j = 0; j < 10; j++) {
+                if (i == j) continue;
+                OneWorse x = new OneWorse();
+                x.image(1);
+                x.step(i, j, true);
+                x.step(j, i, true);
+                struck(x, i > j ? 10 * i + j : 10 * j + i);
+                x.restore(1);
+                struck(x);
+                x.step(i, j, true);
+                x.step(j, i, true);
+                struck(x, i > j ? 10 * i + j : 10 * j + i);
+                x.step(i, j, false);
+                struck(x);
+                x.image(0);
+                x.step(i, j, true);
+                struck(x, i > j ? 10 * i + j : 10 * j + i);
+                x.restore(0);
+                struck(x);
+                x.step(j, i, false);
+                struck(x);
+            }
+        }
     }
 
     private static void promise20Between() {
