@@ -384,8 +384,8 @@ public final class OneWorse {
 
         private Town() {
             for (int man = 0; man < MEN; man++) {
-                traits[man] = EVERY_TRAIT;
-                known[man] = EVERY_INSULT;
+                store(traits, man, EVERY_TRAIT);
+                store(known, man, EVERY_INSULT);
             }
         }
 
@@ -581,7 +581,7 @@ public final class OneWorse {
 
         private int fewestDays(int men) {
             prepare(men);
-            for (int set = 0; set <= EVERY_MAN; set++) {
+            for (int set = 0; set < able.length; set++) {
                 if ((set & ~men) != 0) continue;
                 able[set] = canSpeak(set);
                 store(fewest, set, set == 0 ? 0 : fewestBySets(set));
