@@ -1536,6 +1536,8 @@ public final class Edges {
         struck(x, 90, 91);
         x.restore(1);
         struck(x);
+        for (int i = 0; i < 10; i++) x.step(i, (i + 1) % 10, true);
+        struck(x, 90);
     }
 
     // ---- 20 between
