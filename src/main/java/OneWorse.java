@@ -493,12 +493,19 @@ public final class OneWorse {
         private void fight(int moves, int fallen, int mine, int his, boolean onlyWho) {
             spinning = false;
             enough = onlyWho ? LEAST_WON : WON - 1;
-            start(moves, fallen, mine, his);
+            forget();
+            score = best(moves, fallen, mine, his, 0);
         }
 
         private void spin(int moves, int fallen, int mine, int his) {
             spinning = true;
-            start(moves, fallen, mine, his);
+            forget();
+            score = best(moves, fallen, mine, his, 0);
+        }
+
+        private void forget() {
+            run++;
+            chosen = NONE;
         }
 
         private boolean moverPays() {
@@ -515,12 +522,6 @@ public final class OneWorse {
 
         private int firstMove() {
             return chosen;
-        }
-
-        private void start(int moves, int fallen, int mine, int his) {
-            run++;
-            chosen = NONE;
-            score = best(moves, fallen, mine, his, 0);
         }
 
         /** The best score of him who may say one of these moves; so many were said in this run. */

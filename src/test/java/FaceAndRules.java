@@ -7,7 +7,11 @@ import java.nio.file.Files;
 import java.nio.file.Path;
 import java.util.ArrayList;
 import java.util.List;
+import java.util.Map;
+import java.util.TreeMap;
 import java.util.TreeSet;
+import java.util.regex.Matcher;
+import java.util.regex.Pattern;
 
 /** The class shows the document's face and nothing else, and its text keeps to the rules that can be read off it. */
 public final class FaceAndRules {
@@ -32,6 +36,7 @@ public final class FaceAndRules {
         face();
         classesInside();
         text();
+        shortAndShallow();
         System.out.println("the face and the rules: " + wrong + " wrong");
         if (wrong != 0) System.exit(1);
     }
@@ -87,7 +92,12 @@ public final class FaceAndRules {
         for (Class<?> one : inside) {
             due(Modifier.isStatic(one.getModifiers()), "static: " + one.getName());
             due(!Modifier.isPublic(one.getModifiers()), "not public: " + one.getName());
-            for (Field f : one.getDeclaredFields()) staticsAreFinal(f, f.getModifiers());
+            int fields = 0;
+            for (Field f : one.getDeclaredFields()) {
+                staticsAreFinal(f, f.getModifiers());
+                if (!Modifier.isStatic(f.getModifiers())) fields++;
+            }
+            due(fields <= 20, "some twenty fields: " + one.getName());
             for (Method m : one.getDeclaredMethods()) {
                 due(!names.contains(m.getName()), "no name of the face: " + one.getName() + "." + m.getName());
                 due(m.getParameterCount() <= 7, "seven parameters: " + m.getName());
@@ -103,6 +113,8 @@ public final class FaceAndRules {
             String code = line.replaceAll("^ */?\\*.*|//.*", "");
             for (String word : FORBIDDEN) due(!code.contains(word), "no " + word + "in: " + line);
             due(line.chars().allMatch(c -> c >= 32 && c < 127), "plain signs: " + line);
+            String library = code.replaceAll("\\bInteger\\.bitCount\\(", "");
+            due(!library.matches(".*\\b[A-Z]\\w*\\..*"), "of the library Integer.bitCount alone: " + line);
             if (code.contains("new ")) due(isMadeOnce(code), "rows and objects are made with the object: " + line);
         }
     }
@@ -111,5 +123,49 @@ public final class FaceAndRules {
     private static boolean isMadeOnce(String code) {
         return code.matches(" +private final \\S+ \\w+ = new .*;")
                 || code.matches(" {8}\\w+ = new [A-Z]\\w+\\((town)?\\);");
+    }
+
+    private static final int LONGEST_METHOD = 60, DEEPEST_CALL = 8;
+    private static final Pattern HEAD = Pattern.compile("^( +)(?:public|private) (?:static )?(?:\\S+ )?(\\w+)\\(.*\\{$");
+
+    /** Methods of one name are taken as one: that can only make the calls look deeper. */
+    private static void shortAndShallow() throws IOException {
+        Path file = Path.of("src/main/java/OneWorse.java");
+        if (!Files.exists(file)) return;
+        Map<String, StringBuilder> bodies = new TreeMap<>();
+        String name = null, end = null;
+        int lines = 0;
+        for (String line : Files.readAllLines(file)) {
+            Matcher head = HEAD.matcher(line);
+            if (name == null && head.matches()) {
+                name = head.group(2);
+                end = head.group(1) + "}";
+                lines = 1;
+                bodies.putIfAbsent(name, new StringBuilder());
+            } else if (name != null) {
+                lines++;
+                bodies.get(name).append(line).append('\n');
+                due(lines <= LONGEST_METHOD, "a method stays short: " + name);
+                if (line.equals(end)) name = null;
+            }
+        }
+        for (String of : FACE) due(bodies.containsKey(of.replaceAll("int (\\w+).*", "$1")), "it is read: " + of);
+        for (String from : bodies.keySet()) {
+            String deepest = deepest(from, bodies, new ArrayList<>(List.of(from)));
+            due(deepest.split(" ").length <= DEEPEST_CALL, "calls go at most eight deep: " + deepest);
+        }
+    }
+
+    /** The longest row of calls from here, no method twice. */
+    private static String deepest(String from, Map<String, StringBuilder> bodies, List<String> open) {
+        String longest = from;
+        for (String to : bodies.keySet()) {
+            if (open.contains(to) || !Pattern.compile("\\b" + to + "\\(").matcher(bodies.get(from)).find()) continue;
+            open.add(to);
+            String more = from + " " + deepest(to, bodies, open);
+            open.remove(to);
+            if (more.split(" ").length > longest.split(" ").length) longest = more;
+        }
+        return longest;
     }
 }
