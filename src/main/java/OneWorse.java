@@ -424,10 +424,10 @@ public final class OneWorse {
         }
 
         private int fitting(int man) {
-            int has = traitsOf(man);
+            int own = traitsOf(man);
             int bits = 0;
             for (int insult = 0; insult < INSULTS; insult++) {
-                if ((neededBy(insult) & ~has) == 0) bits |= 1 << insult;
+                if ((neededBy(insult) & ~own) == 0) bits |= 1 << insult;
             }
             return bits;
         }
